@@ -716,9 +716,9 @@ public final class Caretline {
             if (!lines.has(true) || !lines.has(false)) {
                 return refuse(NO_ELEMENT);
             }
-            lines.cross();
+            int word = lines.cross();
             conclude(History.CROSSED, 0, BY_NEXT);
-            return lines.wordOf(lines.caret() - 1);
+            return word;
         }
 
         int takeBack() {
@@ -836,16 +836,14 @@ public final class Caretline {
         }
 
         void go(int index) {
+            boolean isBack = index < caret();
             for (int step = 0; step < MOST_WORDS && caret() != index; step++) {
-                pass(index < caret());
+                common(list.pass(isBack), chain.pass(isBack), rows.pass(isBack));
             }
         }
 
-        void cross() {
-            int behind = wordOf(caret() - 1);
-            int ahead = wordOf(caret());
-            exchange(ahead, true);
-            exchange(behind, false);
+        int cross() {
+            return common(list.cross(), chain.cross(), rows.cross());
         }
 
         int caret() {
@@ -934,6 +932,15 @@ public final class Caretline {
             }
             caret -= isBehind ? 1 : 0;
             return words.remove(index);
+        }
+
+        int cross() {
+            if (caret < 1 || caret >= words.size()) {
+                return NO_ELEMENT;
+            }
+            // The Integer that the list holds goes over itself, so that a swap makes no new one.
+            words.add(caret - 1, words.remove(caret));
+            return words.get(caret - 1);
         }
 
         void empty() {
@@ -1025,6 +1032,16 @@ public final class Caretline {
             return node.word;
         }
 
+        int cross() {
+            if (behind == null || ahead == null) {
+                return NO_ELEMENT;
+            }
+            int word = ahead.word;
+            ahead.word = behind.word;
+            behind.word = word;
+            return word;
+        }
+
         void empty() {
             for (int turn = 0; turn < MOST_WORDS; turn++) {
                 drop(true);
@@ -1099,6 +1116,18 @@ public final class Caretline {
             }
             counts[row]--;
             return rows[row][counts[row]];
+        }
+
+        int cross() {
+            int nearestBehind = counts[BEHIND] - 1;
+            int nearestAhead = counts[AHEAD] - 1;
+            if (nearestBehind < 0 || nearestAhead < 0) {
+                return NO_ELEMENT;
+            }
+            int word = rows[AHEAD][nearestAhead];
+            rows[AHEAD][nearestAhead] = rows[BEHIND][nearestBehind];
+            rows[BEHIND][nearestBehind] = word;
+            return word;
         }
 
         void empty() {
