@@ -6,8 +6,16 @@ final class Check {
 
     private static int made;
     private static int wrong;
+    private static int sentences;
+    private static String sentence = "";
 
     private Check() {
+    }
+
+    /** The checks behind this call are of this sentence of the document (a remark in brackets tells which case). */
+    static void sentence(String words) {
+        sentences++;
+        sentence = words;
     }
 
     static void same(String what, long got, long due) {
@@ -66,12 +74,13 @@ final class Check {
     private static void tellWrong(String text) {
         wrong++;
         if (wrong <= 40) {
-            System.out.println(text);
+            System.out.println(sentence.isEmpty() ? text : "\"" + sentence + "\": " + text);
         }
     }
 
     static void finish() {
-        System.out.println(made + " checks, " + wrong + " wrong");
+        String of = sentences == 0 ? "" : " of " + sentences + " sentences";
+        System.out.println(made + " checks" + of + ", " + wrong + " wrong");
         if (wrong != 0) {
             System.exit(1);
         }

@@ -16,115 +16,94 @@ public final class ScriptTest {
         Check.finish();
     }
 
-    private static void does(String words, String script, int acts, int ending, String state) {
-        Caretline line = Texts.filled(words, 0);
-        Check.same("run() of \"" + script + "\"", Texts.run(line, script), acts);
-        Check.same("endedBy() of \"" + script + "\"", line.endedBy(), ending);
-        Check.same("the line behind \"" + script + "\"", Texts.state(line), state);
-        Check.same("errorPosition() of \"" + script + "\"", line.errorPosition(), Caretline.NONE);
-        Check.same("the tape behind \"" + script + "\"", line.clearTape(), 0);
-        Check.same("acts() behind \"" + script + "\"", line.acts(), acts);
-    }
-
     private static void signs() {
-        does("a b c", "", 0, 0, "|a b c -");
-        does("a b c", ".", 1, 0, " a|b c <a");
-        does("a b c", "..,", 3, 0, " a|b c >b");
-        does("a b c", ".-", 2, 0, "|b c -");
-        does("a b c", ".%", 2, 0, " b|a c <b");
-        does("a b c", "+xyz", 1, 0, " xyz|a b c -");
-        does("a b c", ".=xyz", 2, 0, " xyz|b c <xyz");
-        does("a b c", ">c", 1, 0, " a b c|<c");
-        does("a b c", "@3<b", 2, 0, " a|b c >b");
-        does("a b c", "@2", 1, 0, " a b|c -");
-        does("a b c", "2{.}", 2, 0, " a b|c <b");
-        does("a b c", "*{.}", 3, 0, " a b c|<c");
-        does("", "+a+zzzzzz+ab", 3, 0, " a zzzzzz ab|-");
+        Scripts.does("a b c", "", 0, 0, "|a b c -");
+        Scripts.does("a b c", ".", 1, 0, " a|b c <a");
+        Scripts.does("a b c", "..,", 3, 0, " a|b c >b");
+        Scripts.does("a b c", ".-", 2, 0, "|b c -");
+        Scripts.does("a b c", ".%", 2, 0, " b|a c <b");
+        Scripts.does("a b c", "+xyz", 1, 0, " xyz|a b c -");
+        Scripts.does("a b c", ".=xyz", 2, 0, " xyz|b c <xyz");
+        Scripts.does("a b c", ">c", 1, 0, " a b c|<c");
+        Scripts.does("a b c", "@3<b", 2, 0, " a|b c >b");
+        Scripts.does("a b c", "@2", 1, 0, " a b|c -");
+        Scripts.does("a b c", "2{.}", 2, 0, " a b|c <b");
+        Scripts.does("a b c", "*{.}", 3, 0, " a b c|<c");
+        Scripts.does("", "+a+zzzzzz+ab", 3, 0, " a zzzzzz ab|-");
     }
 
     private static void blanks() {
-        does("a b c", " \n ", 0, 0, "|a b c -");
-        does("a b c", " . . ", 2, 0, " a b|c <b");
-        does("a b c", "\n+ \n d\n@ 0\n 2 \n{ . }\n", 4, 0, " d a|b c <a");
-        does("a b c", "+ab12{@0}", 13, 0, "|ab a b c -");
-        does("a b c", "@1 2{.}", 3, 0, " a b c|<c");
-    }
-
-    private static void isError(String script, int place) {
-        Caretline line = Texts.filled("a b c", 0);
-        Texts.type(line, script);
-        Check.isNoArgument("run() of \"" + script + "\"", line::run);
-        Check.same("errorPosition() of \"" + script + "\"", line.errorPosition(), place);
-        Check.same("endedBy() of \"" + script + "\"", line.endedBy(), 0);
-        Check.same("the tape behind \"" + script + "\"", line.clearTape(), 0);
-        Check.same("acts() behind \"" + script + "\"", line.acts(), 0);
-        Check.same("the line behind \"" + script + "\"", Texts.state(line), "|a b c -");
+        Scripts.does("a b c", " \n ", 0, 0, "|a b c -");
+        Scripts.does("a b c", " . . ", 2, 0, " a b|c <b");
+        Scripts.does("a b c", "\n+ \n d\n@ 0\n 2 \n{ . }\n", 4, 0, " d a|b c <a");
+        Scripts.does("a b c", "+ab12{@0}", 13, 0, "|ab a b c -");
+        Scripts.does("a b c", "@1 2{.}", 3, 0, " a b c|<c");
     }
 
     private static void noScripts() {
-        isError("a", 0);
-        isError(". abc", 2);
-        isError("..?", 2);
-        isError(".A", 1);
-        isError(".\t.", 1);
-        isError(".\r", 1);
-        isError(".\u00ff", 1);
-        isError(".\u0001", 1);
-        isError(".\u0002", 1);
-        isError("+", 1);
-        isError("+ \n", 3);
-        isError("+1", 1);
-        isError("+.", 1);
-        isError("=}", 1);
-        isError(">@1", 1);
-        isError("<\u0001", 1);
-        isError("+ab cd", 4);
-        isError("+abcdefg", 1);
-        isError("+abcdefg.", 1);
-        isError("+Abc", 1);
-        isError("+abC", 3);
-        isError("@", 1);
-        isError("@  ", 3);
-        isError("@a", 1);
-        isError("@1234", 1);
-        isError("@-1", 1);
-        isError("@1 2", 4);
-        isError("@1 2.", 4);
-        isError("0{.}", 0);
-        isError("00{.}", 0);
-        isError("21{.}", 0);
-        isError(" 999{.}", 1);
-        isError("1000{.}", 0);
-        isError("0001{.}", 0);
-        isError("5.", 1);
-        isError("5", 1);
-        isError("5 ", 2);
-        isError("5{.", 3);
-        isError("5{. ", 4);
-        isError("5{.}}", 4);
-        isError("}", 0);
-        isError("{.}", 0);
-        isError("*", 1);
-        isError("*.", 1);
-        isError("*5{.}", 1);
-        isError("*{.", 3);
-        isError("**{.}", 1);
-        isError("5 5{.}", 2);
-        isError("1{+}", 3);
-        isError("1{@}", 3);
-        isError("1{2}", 3);
-        isError("1{2{3{4{5{.}}}}}", 9);
-        isError("*{*{*{*{*{.}}}}}", 9);
-        isError("1{2{3{4{*{", 9);
-        isError("1{2{3{4{0{", 8);
-        isError("1{2{3{4{", 8);
-        isError("1{2{3{4{.}}}", 12);
-        isError("1{2{3{4{.}}}}}", 13);
-        isError("a ?", 0);
-        isError(". ? a }", 2);
-        isError(Texts.repeat(".", 299) + "{", 299);
-        isError(Texts.repeat("+a ", 99) + "a *", 297);
-        isError(Texts.repeat(" ", 299) + "@", 300);
+        Scripts.isError("a", 0);
+        Scripts.isError(". abc", 2);
+        Scripts.isError("..?", 2);
+        Scripts.isError(".A", 1);
+        Scripts.isError(".\t.", 1);
+        Scripts.isError(".\r", 1);
+        Scripts.isError(".\u00ff", 1);
+        Scripts.isError(".\u0001", 1);
+        Scripts.isError(".\u0002", 1);
+        Scripts.isError("+", 1);
+        Scripts.isError("+ \n", 3);
+        Scripts.isError("+1", 1);
+        Scripts.isError("+.", 1);
+        Scripts.isError("=}", 1);
+        Scripts.isError(">@1", 1);
+        Scripts.isError("<\u0001", 1);
+        Scripts.isError("+ab cd", 4);
+        Scripts.isError("+abcdefg", 1);
+        Scripts.isError("+abcdefg.", 1);
+        Scripts.isError("+Abc", 1);
+        Scripts.isError("+abC", 3);
+        Scripts.isError("@", 1);
+        Scripts.isError("@  ", 3);
+        Scripts.isError("@a", 1);
+        Scripts.isError("@1234", 1);
+        Scripts.isError("@-1", 1);
+        Scripts.isError("@1 2", 4);
+        Scripts.isError("@1 2.", 4);
+        Scripts.isError("0{.}", 0);
+        Scripts.isError("00{.}", 0);
+        Scripts.isError("21{.}", 0);
+        Scripts.isError(" 999{.}", 1);
+        Scripts.isError("1000{.}", 0);
+        Scripts.isError("0001{.}", 0);
+        Scripts.isError("5.", 1);
+        Scripts.isError("5", 1);
+        Scripts.isError("5 ", 2);
+        Scripts.isError("5{.", 3);
+        Scripts.isError("5{. ", 4);
+        Scripts.isError("5{.}}", 4);
+        Scripts.isError("}", 0);
+        Scripts.isError("{.}", 0);
+        Scripts.isError("*", 1);
+        Scripts.isError("*.", 1);
+        Scripts.isError("*5{.}", 1);
+        Scripts.isError("*{.", 3);
+        Scripts.isError("**{.}", 1);
+        Scripts.isError("5 5{.}", 2);
+        Scripts.isError("1{+}", 3);
+        Scripts.isError("1{@}", 3);
+        Scripts.isError("1{2}", 3);
+        Scripts.isError("1{2{3{4{5{.}}}}}", 9);
+        Scripts.isError("*{*{*{*{*{.}}}}}", 9);
+        Scripts.isError("1{2{3{4{*{", 9);
+        Scripts.isError("1{2{3{4{0{", 8);
+        Scripts.isError("1{2{3{4{", 8);
+        Scripts.isError("1{2{3{4{.}}}", 12);
+        Scripts.isError("1{2{3{4{.}}}}}", 13);
+        Scripts.isError("a ?", 0);
+        Scripts.isError(". ? a }", 2);
+        Scripts.isError(Texts.repeat(".", 299) + "{", 299);
+        Scripts.isError(Texts.repeat("+a ", 99) + "a *", 297);
+        Scripts.isError(Texts.repeat(" ", 299) + "@", 300);
     }
 
     private static void errorsChangeNothing() {
@@ -151,34 +130,34 @@ public final class ScriptTest {
     }
 
     private static void numbers() {
-        does("a b c", "@0", 1, 0, "|a b c -");
-        does("a b c", "@003", 1, 0, " a b c|-");
-        does("a b c", "@4", 0, Caretline.NO_INDEX, "|a b c -");
-        does("a b c", "@999", 0, Caretline.NO_INDEX, "|a b c -");
-        does("a b c", "002{.}", 2, 0, " a b|c <b");
-        does("a b c", "1{.}", 1, 0, " a|b c <a");
-        does("", "20{+a}", 20, 0, Texts.repeat(" a", 20) + "|-");
-        does("", "020{@0}", 20, 0, "|-");
+        Scripts.does("a b c", "@0", 1, 0, "|a b c -");
+        Scripts.does("a b c", "@003", 1, 0, " a b c|-");
+        Scripts.does("a b c", "@4", 0, Caretline.NO_INDEX, "|a b c -");
+        Scripts.does("a b c", "@999", 0, Caretline.NO_INDEX, "|a b c -");
+        Scripts.does("a b c", "002{.}", 2, 0, " a b|c <b");
+        Scripts.does("a b c", "1{.}", 1, 0, " a|b c <a");
+        Scripts.does("", "20{+a}", 20, 0, Texts.repeat(" a", 20) + "|-");
+        Scripts.does("", "020{@0}", 20, 0, "|-");
     }
 
     private static void repeating() {
-        does("", "2{+a 3{+b}}", 8, 0, " a b b b a b b b|-");
-        does("a b c", "2{. 2{+x ,} -}", 12, 0, " a x|x b c -");
-        does("a b c", "5{.}", 3, Caretline.NO_ELEMENT, " a b c|<c");
-        does("a b c", "2{5{.}+x}", 3, Caretline.NO_ELEMENT, " a b c|<c");
-        does("a b c", "1{2{}.}.", 2, 0, " a b|c <b");
+        Scripts.does("", "2{+a 3{+b}}", 8, 0, " a b b b a b b b|-");
+        Scripts.does("a b c", "2{. 2{+x ,} -}", 12, 0, " a x|x b c -");
+        Scripts.does("a b c", "5{.}", 3, Caretline.NO_ELEMENT, " a b c|<c");
+        Scripts.does("a b c", "2{5{.}+x}", 3, Caretline.NO_ELEMENT, " a b c|<c");
+        Scripts.does("a b c", "1{2{}.}.", 2, 0, " a b|c <b");
     }
 
     private static void stars() {
-        does("a b c", "*{.}+x", 4, 0, " a b c x|-");
-        does("a b c", "*{.-}", 6, 0, "|-");
-        does("a b c", "*{.+x}", 6, 0, " a x b x c x|-");
-        does("a b c", "*{5{.}}+x", 4, 0, " a b c x|-");
-        does("a b c", "*{*{.}@9}+x", 4, 0, " a b c x|-");
-        does("a b c", "2{*{.}@0}", 8, 0, "|a b c -");
-        does("a b a", "*{>a=x}", 4, 0, " x b x|<x");
-        does("a b c", "*{-}*{=x}*{<a}*{%}*{@4}.", 1, 0, " a|b c <a");
-        does("a b c", "*{-}-", 0, Caretline.NO_STATE, "|a b c -");
+        Scripts.does("a b c", "*{.}+x", 4, 0, " a b c x|-");
+        Scripts.does("a b c", "*{.-}", 6, 0, "|-");
+        Scripts.does("a b c", "*{.+x}", 6, 0, " a x b x c x|-");
+        Scripts.does("a b c", "*{5{.}}+x", 4, 0, " a b c x|-");
+        Scripts.does("a b c", "*{*{.}@9}+x", 4, 0, " a b c x|-");
+        Scripts.does("a b c", "2{*{.}@0}", 8, 0, "|a b c -");
+        Scripts.does("a b a", "*{>a=x}", 4, 0, " x b x|<x");
+        Scripts.does("a b c", "*{-}*{=x}*{<a}*{%}*{@4}.", 1, 0, " a|b c <a");
+        Scripts.does("a b c", "*{-}-", 0, Caretline.NO_STATE, "|a b c -");
         Caretline line = Texts.filled("a b c", 0);
         Texts.run(line, "*{.} *{.} 2{*{@7}} *{-.}");
         Check.same("refusals that end a * are counted", line.refusals(Caretline.NO_ELEMENT), 3);
@@ -187,10 +166,10 @@ public final class ScriptTest {
     }
 
     private static void starsWithoutActs() {
-        does("a b c", "*{}+x", 1, 0, " x|a b c -");
-        does("a b c", "*{*{}*{}}.", 1, 0, " a|b c <a");
-        does("a b c", "*{*{.}}+x", 4, 0, " a b c x|-");
-        does("a b c", "*{3{}}.", 1, 0, " a|b c <a");
+        Scripts.does("a b c", "*{}+x", 1, 0, " x|a b c -");
+        Scripts.does("a b c", "*{*{}*{}}.", 1, 0, " a|b c <a");
+        Scripts.does("a b c", "*{*{.}}+x", 4, 0, " a b c x|-");
+        Scripts.does("a b c", "*{3{}}.", 1, 0, " a|b c <a");
         Caretline line = Texts.filled("a b c", 0);
         Check.same("run()", Texts.run(line, "*{*{.}}"), 3);
         Check.same("the outer * turns once more", line.refusals(Caretline.NO_ELEMENT), 2);
@@ -200,15 +179,15 @@ public final class ScriptTest {
     }
 
     private static void endings() {
-        does("a b c", ".....", 3, Caretline.NO_ELEMENT, " a b c|<c");
-        does("a b c", ",.", 0, Caretline.NO_ELEMENT, "|a b c -");
-        does("a b c", "=x.", 0, Caretline.NO_STATE, "|a b c -");
-        does("a b c", ">d.", 0, Caretline.NO_ELEMENT, "|a b c -");
-        does("a b c", "<a.", 0, Caretline.NO_ELEMENT, "|a b c -");
-        does("a b c", "%.", 0, Caretline.NO_ELEMENT, "|a b c -");
-        does("a b c", ".@5.", 1, Caretline.NO_INDEX, " a|b c <a");
-        does("", "20{6{+a}}", 100, Caretline.FULL, Texts.repeat(" a", 100) + "|-");
-        does("", "*{+a}@0", 101, 0, "|" + Texts.repeat("a ", 100) + "-");
+        Scripts.does("a b c", ".....", 3, Caretline.NO_ELEMENT, " a b c|<c");
+        Scripts.does("a b c", ",.", 0, Caretline.NO_ELEMENT, "|a b c -");
+        Scripts.does("a b c", "=x.", 0, Caretline.NO_STATE, "|a b c -");
+        Scripts.does("a b c", ">d.", 0, Caretline.NO_ELEMENT, "|a b c -");
+        Scripts.does("a b c", "<a.", 0, Caretline.NO_ELEMENT, "|a b c -");
+        Scripts.does("a b c", "%.", 0, Caretline.NO_ELEMENT, "|a b c -");
+        Scripts.does("a b c", ".@5.", 1, Caretline.NO_INDEX, " a|b c <a");
+        Scripts.does("", "20{6{+a}}", 100, Caretline.FULL, Texts.repeat(" a", 100) + "|-");
+        Scripts.does("", "*{+a}@0", 101, 0, "|" + Texts.repeat("a ", 100) + "-");
         Caretline line = Texts.filled("a", 0);
         Texts.run(line, "..");
         Check.same("endedBy()", line.endedBy(), Caretline.NO_ELEMENT);
@@ -218,17 +197,17 @@ public final class ScriptTest {
     }
 
     private static void mostActs() {
-        does("", "20{15{@0}}", 300, 0, "|-");
-        does("", "20{15{@0}}*{}2{}", 300, 0, "|-");
-        does("", "20{15{@0}}@0", 300, Caretline.TOO_MANY, "|-");
-        does("", "20{15{@0}}.", 300, Caretline.TOO_MANY, "|-");
-        does("", "20{15{@0}}*{.}", 300, Caretline.TOO_MANY, "|-");
-        does("", "20{20{@0}}", 300, Caretline.TOO_MANY, "|-");
-        does("", "*{@0}", 300, Caretline.TOO_MANY, "|-");
-        does("", "*{*{@0}}+a", 300, Caretline.TOO_MANY, "|-");
-        does("a", "*{.,}", 300, Caretline.TOO_MANY, "|a >a");
-        does("a", "*{.,@0}@1", 300, Caretline.TOO_MANY, "|a -");
-        does("a", Texts.repeat(".,", 150), 300, 0, "|a >a");
+        Scripts.does("", "20{15{@0}}", 300, 0, "|-");
+        Scripts.does("", "20{15{@0}}*{}2{}", 300, 0, "|-");
+        Scripts.does("", "20{15{@0}}@0", 300, Caretline.TOO_MANY, "|-");
+        Scripts.does("", "20{15{@0}}.", 300, Caretline.TOO_MANY, "|-");
+        Scripts.does("", "20{15{@0}}*{.}", 300, Caretline.TOO_MANY, "|-");
+        Scripts.does("", "20{20{@0}}", 300, Caretline.TOO_MANY, "|-");
+        Scripts.does("", "*{@0}", 300, Caretline.TOO_MANY, "|-");
+        Scripts.does("", "*{*{@0}}+a", 300, Caretline.TOO_MANY, "|-");
+        Scripts.does("a", "*{.,}", 300, Caretline.TOO_MANY, "|a >a");
+        Scripts.does("a", "*{.,@0}@1", 300, Caretline.TOO_MANY, "|a -");
+        Scripts.does("a", Texts.repeat(".,", 150), 300, 0, "|a >a");
         Caretline line = new Caretline();
         Texts.run(line, "*{@0}");
         Check.same("each script has its own 300", Texts.run(line, "*{@0}"), 300);
@@ -248,10 +227,10 @@ public final class ScriptTest {
     }
 
     private static void deepest() {
-        does("", "2{2{2{2{@0}}}}", 16, 0, "|-");
-        does("a b", "*{*{*{*{.}}}}+x", 3, 0, " a b x|-");
-        does("", "1{1{1{1{}}}}1{1{1{1{+a}}}}", 1, 0, " a|-");
-        does("", "20{20{20{20{}}}}+a", 1, 0, " a|-");
-        does("", "1{}" + Texts.repeat("1{}", 98) + "+a", 1, 0, " a|-");
+        Scripts.does("", "2{2{2{2{@0}}}}", 16, 0, "|-");
+        Scripts.does("a b", "*{*{*{*{.}}}}+x", 3, 0, " a b x|-");
+        Scripts.does("", "1{1{1{1{}}}}1{1{1{1{+a}}}}", 1, 0, " a|-");
+        Scripts.does("", "20{20{20{20{}}}}+a", 1, 0, " a|-");
+        Scripts.does("", "1{}" + Texts.repeat("1{}", 98) + "+a", 1, 0, " a|-");
     }
 }

@@ -23,10 +23,15 @@ final class Texts {
     static int type(Caretline line, String text) {
         int length = line.append(0, 0, 0, 0, 0);
         for (int at = 0; at < text.length(); at += 20) {
-            length = line.append(four(text, at), four(text, at + 4), four(text, at + 8), four(text, at + 12),
-                    four(text, at + 16));
+            length = append(line, text, at);
         }
         return length;
+    }
+
+    /** Appends at most 20 bytes of a text, by one call. */
+    static int append(Caretline line, String text, int at) {
+        return line.append(four(text, at), four(text, at + 4), four(text, at + 8), four(text, at + 12),
+                four(text, at + 16));
     }
 
     private static int four(String text, int from) {
@@ -57,6 +62,20 @@ final class Texts {
         return line;
     }
 
+    /** These words with the caret at an index, and the word there given by nothing (0), a next (1) or a previous (2). */
+    static Caretline at(String words, int caret, int by) {
+        Caretline line = new Caretline();
+        line.write();
+        Texts.fill(line, words);
+        line.move(by == 0 ? caret : by == 1 ? caret - 1 : caret + 1);
+        if (by == 1) {
+            line.next();
+        } else if (by == 2) {
+            line.previous();
+        }
+        return line;
+    }
+
     static String written(Caretline line) {
         int length = line.write();
         StringBuilder text = new StringBuilder();
@@ -69,15 +88,55 @@ final class Texts {
     /** The line, the caret and the word given latest: "a b| c" and behind it "<b" or ">c" or "-". */
     static String state(Caretline line) {
         StringBuilder text = new StringBuilder();
-        for (int i = 0; i < line.size(); i++) {
-            text.append(i == line.nextIndex() ? "|" : " ").append(letters(line.wordAt(i)));
+        // Asked once: an object is used for at most 512 calls.
+        int size = line.size();
+        int caret = line.nextIndex();
+        for (int i = 0; i < size; i++) {
+            text.append(i == caret ? "|" : " ").append(letters(line.wordAt(i)));
         }
-        text.append(line.nextIndex() == line.size() ? "|" : " ");
+        text.append(caret == size ? "|" : " ");
         switch (line.givenBy()) {
             case 0: return text.append("-").toString();
             case 1: return text.append("<").append(letters(line.given())).toString();
             default: return text.append(">").append(letters(line.given())).toString();
         }
+    }
+
+    /** All that an object tells of itself without being changed, but for the counts of refusals. */
+    static String all(Caretline line) {
+        StringBuilder text = new StringBuilder(state(line));
+        text.append(" now ").append(line.refusedNow()).append(" undoable ").append(line.undoable());
+        text.append(" acts ").append(line.acts()).append(" tape ").append(line.append(0, 0, 0, 0, 0));
+        text.append(" error ").append(line.errorPosition()).append(" ended ").append(line.endedBy());
+        return text.append(" written \"").append(writtenBefore(line)).append('"').toString();
+    }
+
+    /** The text of the latest write(), as far as writtenAt() tells it. */
+    static String writtenBefore(Caretline line) {
+        StringBuilder text = new StringBuilder();
+        try {
+            for (int i = 0; i < 1000; i++) {
+                text.append((char) line.writtenAt(i));
+            }
+        } catch (IndexOutOfBoundsException e) {
+            return text.toString();
+        }
+        return text.append("..").toString();
+    }
+
+    /** How often acts were refused by NO_ELEMENT, NO_STATE, NO_INDEX and FULL. */
+    static String refusals(Caretline line) {
+        return line.refusals(Caretline.NO_ELEMENT) + " " + line.refusals(Caretline.NO_STATE) + " "
+            + line.refusals(Caretline.NO_INDEX) + " " + line.refusals(Caretline.FULL);
+    }
+
+    /** What refusals() tells if acts were refused so many times, by this reason alone. */
+    static String counted(int kind, int times) {
+        StringBuilder text = new StringBuilder();
+        for (int other = Caretline.NO_ELEMENT; other >= Caretline.FULL; other--) {
+            text.append(other == kind ? times : 0).append(other == Caretline.FULL ? "" : " ");
+        }
+        return text.toString();
     }
 
     static String repeat(String part, int times) {
