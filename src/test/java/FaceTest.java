@@ -17,6 +17,11 @@ public final class FaceTest {
         + "|int count(int)|int unlike()|int clear()|int write()|int writtenAt(int)|int refusals(int)|int acts()"
         + "|double meanLetters()|float caretShare()|boolean agree()|int errors()";
     private static final String CONSTANTS = "NONE|NO_ELEMENT|NO_STATE|NO_INDEX|FULL|TOO_MANY";
+    private static final String THROWING = "add IllegalArgumentException|set IllegalArgumentException"
+        + "|find IllegalArgumentException|append IllegalStateException|fill IllegalArgumentException"
+        + "|run IllegalArgumentException|wordAt IndexOutOfBoundsException|indexOf IllegalArgumentException"
+        + "|lastIndexOf IllegalArgumentException|count IllegalArgumentException|writtenAt IndexOutOfBoundsException"
+        + "|refusals IllegalArgumentException";
 
     public static void main(String[] args) {
         Class<?> face = Caretline.class;
@@ -38,21 +43,29 @@ public final class FaceTest {
     private static void methods(Class<?> face) {
         Set<String> found = new TreeSet<>();
         Set<String> names = new TreeSet<>();
+        Set<String> throwing = new TreeSet<>();
         for (Method method : face.getDeclaredMethods()) {
             if (Modifier.isPublic(method.getModifiers())) {
                 found.add(signature(method));
                 names.add(method.getName());
+                for (Class<?> thrown : method.getExceptionTypes()) {
+                    throwing.add(method.getName() + " " + thrown.getSimpleName());
+                }
                 Check.isFalse(method + " is static", Modifier.isStatic(method.getModifiers()));
             }
         }
-        Check.same("public methods", String.join("|", found),
-            String.join("|", new TreeSet<>(Arrays.asList(METHODS.split("\\|")))));
+        Check.same("public methods", String.join("|", found), sorted(METHODS));
+        Check.same("what they say that they throw", String.join("|", throwing), sorted(THROWING));
         for (Method method : face.getDeclaredMethods()) {
             if (!Modifier.isPublic(method.getModifiers())) {
                 Check.isTrue(method + " is private", Modifier.isPrivate(method.getModifiers()));
                 Check.isFalse(method + " bears a public name", names.contains(method.getName()));
             }
         }
+    }
+
+    private static String sorted(String names) {
+        return String.join("|", new TreeSet<>(Arrays.asList(names.split("\\|"))));
     }
 
     private static String signature(Method method) {
@@ -73,7 +86,6 @@ public final class FaceTest {
                 Check.isTrue(field + " is private", Modifier.isPrivate(modifiers));
             }
         }
-        Check.same("public constants", String.join("|", found),
-            String.join("|", new TreeSet<>(Arrays.asList(CONSTANTS.split("\\|")))));
+        Check.same("public constants", String.join("|", found), sorted(CONSTANTS));
     }
 }
